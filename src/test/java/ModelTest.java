@@ -4,7 +4,7 @@ import java.util.Random;
 
 /** Random runs of calls, each answer and each trace it leaves held against the Model. */
 public final class ModelTest {
-    private static final int RUNS = 200;
+    private static final int RUNS = 150;
     private static final int CALLS = 300;
 
     private final PageHold hold;
