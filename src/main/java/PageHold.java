@@ -672,8 +672,10 @@ public final class PageHold {
         }
 
         void clear(int from, int to) {
-            int end = Math.min(to, row.length * LONG_BYTES);
-            for (int i = Math.max(0, from); i < end; i++) {
+            if (from < 0 || to > row.length * LONG_BYTES) {
+                return;
+            }
+            for (int i = from; i < to; i++) {
                 row[i / LONG_BYTES] &= ~(255L << (8 * (i % LONG_BYTES)));
             }
         }

@@ -6,6 +6,8 @@ import java.util.Random;
 public final class ModelTest {
     private static final int RUNS = 150;
     private static final int CALLS = 300;
+    private static final int[] EDGES = {Integer.MIN_VALUE, Integer.MAX_VALUE, -1, 0, 1, 11, 12, 63, 64, 65, 255, 256, 257,
+        1023, 1024, 1025, 16320, 16383, 16384, 16385};
 
     private final PageHold hold;
     private final Model model;
@@ -28,7 +30,8 @@ public final class ModelTest {
     public static void main(String[] args) {
         int wrong = 0;
         int runs = args.length > 0 ? Integer.parseInt(args[0]) : RUNS;
-        for (int seed = 0; seed < runs && wrong == 0; seed++) {
+        int first = args.length > 1 ? Integer.parseInt(args[1]) : 0;
+        for (int seed = first; seed < first + runs && wrong == 0; seed++) {
             wrong += new ModelTest(seed).goes() ? 0 : 1;
         }
         System.out.println(wrong == 0 ? runs + " runs are as the model's" : "a run is not as the model's");
@@ -52,22 +55,27 @@ public final class ModelTest {
         return got == want ? null : what + " answered " + got + ", the model " + want;
     }
 
+    /** Now and then an edge in a number's stead. */
+    private int orEdge(int usual) {
+        return random.nextInt(80) == 0 ? EDGES[random.nextInt(EDGES.length)] : usual;
+    }
+
     private int file() {
-        return random.nextInt(60) == 0 ? random.nextInt(16) - 2 : random.nextInt(files);
+        return orEdge(random.nextInt(60) == 0 ? random.nextInt(16) - 2 : random.nextInt(files));
     }
 
     private int place() {
         int at = random.nextInt(3) == 0 ? random.nextInt(reach / 64) * 64 : random.nextInt(reach);
-        return random.nextInt(60) == 0 ? at * 4 - 99 : at;
+        return orEdge(random.nextInt(60) == 0 ? at * 4 - 99 : at);
     }
 
     private int page() {
-        return random.nextInt(60) == 0 ? random.nextInt(300) - 20 : random.nextInt(reach / 64);
+        return orEdge(random.nextInt(60) == 0 ? random.nextInt(300) - 20 : random.nextInt(reach / 64));
     }
 
     private int amount() {
         int[] amounts = {random.nextInt(20), random.nextInt(200), random.nextInt(1100), 64, 1024};
-        return amounts[random.nextInt(amounts.length)];
+        return orEdge(amounts[random.nextInt(amounts.length)]);
     }
 
     private String oneCall() {
@@ -82,7 +90,7 @@ public final class ModelTest {
                 calls.add("read(" + f + ", " + at + ", " + n + ")");
                 return same("read", hold.read(f, at, n), model.read(f, at, n));
             case 6: case 7: case 8: {
-                int few = random.nextInt(11);
+                int few = orEdge(random.nextInt(11));
                 long row = random.nextLong();
                 calls.add("write(" + f + ", " + at + ", " + row + ", " + few + ")");
                 return same("write", hold.write(f, at, row, few), model.write(f, at, row, few));
@@ -94,7 +102,7 @@ public final class ModelTest {
                 calls.add("truncate(" + f + ", " + at + ")");
                 return same("truncate", hold.truncate(f, at), model.truncate(f, at));
             case 14: {
-                int few = random.nextInt(5) == 0 ? random.nextInt(300) : random.nextInt(5);
+                int few = orEdge(random.nextInt(5) == 0 ? random.nextInt(300) : random.nextInt(5));
                 calls.add("punch(" + f + ", " + p + ", " + few + ")");
                 return same("punch", hold.punch(f, p, few), model.punch(f, p, few));
             }
@@ -102,7 +110,7 @@ public final class ModelTest {
                 calls.add("sync(" + f + ")");
                 return same("sync", hold.sync(f), model.sync(f));
             case 16: case 17: {
-                int s = random.nextInt(20) == 0 ? random.nextInt(1100) - 50 : random.nextInt(8);
+                int s = orEdge(random.nextInt(20) == 0 ? random.nextInt(1100) - 50 : random.nextInt(8));
                 calls.add("tick(" + s + ")");
                 return same("tick", hold.tick(s), model.tick(s));
             }
@@ -110,7 +118,7 @@ public final class ModelTest {
                 calls.add("pin(" + f + ", " + p + ", " + yes + ")");
                 return same("pin", hold.pin(f, p, yes) ? 1 : 0, model.pin(f, p, yes) ? 1 : 0);
             case 21: case 22: {
-                int block = random.nextInt(12) - (random.nextInt(20) == 0 ? 5 : 0);
+                int block = orEdge(random.nextInt(12) - (random.nextInt(20) == 0 ? 5 : 0));
                 calls.add("fail(" + block + ", " + yes + ")");
                 return same("fail", hold.fail(block, yes) ? 1 : 0, model.fail(block, yes) ? 1 : 0);
             }

@@ -250,6 +250,11 @@ public final class PromisesTest {
         due("1 went fourth", y.page(0, 1, 3), 4);
         y.read(0, 64 * 7, 1);
         due("three went since, two active: inactive", y.page(0, 7, 7), 0);
+        due("9 went third, 1 fourth", y.page(0, 9, 3), 3);
+        due("11 went fifth", y.page(0, 11, 3), 5);
+        y.read(0, 64 * 1, 1);
+        due("13 went for it, two since, two active: active", y.page(0, 1, 7), 1);
+        due("evicted", y.told(5), 6);
     }
 
     private static void takingBack() {
@@ -479,6 +484,16 @@ public final class PromisesTest {
         y.truncate(0, 64);
         y.read(0, 63, 1);
         due("lost cut shows the block's bytes", y.hand(0), (1 + 3 * 63) & 255);
+        y.truncate(0, 40);
+        y.crash();
+        y.write(0, 39, 6, 1);
+        y.sync(0);
+        due("the file's last byte on disk", y.disk(0, 39), 6);
+        due("behind the size 0 on disk, whatever the frame has", y.disk(0, 40), 0);
+        due("and at the block's end", y.disk(0, 63), 0);
+        y.truncate(0, 64);
+        y.read(0, 63, 1);
+        due("the frame has what it had", y.hand(0), (1 + 3 * 63) & 255);
         PageHold z = new PageHold(8, 8);
         z.fill(0, 0, 70, 1);
         z.truncate(0, 65);
