@@ -13,7 +13,7 @@ import java.util.TreeSet;
 import java.util.regex.Matcher;
 import java.util.regex.Pattern;
 
-/** The face of the document, and those rules of LANGUAGE.md that can be seen from outside. */
+/** The face of the document and its names (rule 1 of LANGUAGE.md), and what the one file may bring in. */
 public final class RulesTest {
     private static final String[] FACE = {
         "int crash()", "int disk(int,int)", "int drop()", "boolean fail(int,boolean)", "int fill(int,int,int,int)",
@@ -22,14 +22,11 @@ public final class RulesTest {
         "int size(int)", "int sync(int)", "int syncAll()", "int tick(int)", "int told(int)", "int tree(int,int)",
         "int truncate(int,int)", "int write(int,int,long,int)"};
     private static final String[] CONSTANTS = {"BAD", "DEFECT", "NONE", "NO_FRAME", "NO_ROOM"};
-    private static final String[] FORBIDDEN = {"\\bthrow\\b", "\\btry\\b", "\\bcatch\\b", "\\bsynchronized\\b",
-        "\\bassert\\b", "->", "::", "Exact\\b", "\\bpackage\\b", "\\bvar\\b", "Math\\.random", "System\\.(?!arraycopy)",
-        "static \\{", "\\bhashCode\\b", "\\btoString\\b", "@"};
     private static int wrong = 0;
 
     public static void main(String[] args) throws IOException {
         face();
-        nested();
+        names();
         source(Files.readString(Path.of("src/main/java/PageHold.java")));
         System.out.println(wrong == 0 ? "the rules are kept" : wrong + " rules are broken");
         if (wrong != 0) System.exit(1);
@@ -68,23 +65,14 @@ public final class RulesTest {
             && Arrays.equals(made[0].getParameterTypes(), new Class<?>[] {int.class, int.class}));
     }
 
-    private static void nested() {
+    /** Rule 1: no private method bears a name of the face. */
+    private static void names() {
         Set<String> names = new TreeSet<>();
         for (String s : FACE) names.add(s.replaceAll("^\\w+ |\\(.*", ""));
         List<Class<?>> all = new ArrayList<>(Arrays.asList(PageHold.class.getDeclaredClasses()));
-        due("some twelve classes", all.size() <= 11);
-        for (Class<?> c : all) due("static: " + c, Modifier.isStatic(c.getModifiers()));
         all.add(PageHold.class);
         for (Class<?> c : all) {
-            int fields = 0;
-            for (Field f : c.getDeclaredFields()) {
-                boolean isStatic = Modifier.isStatic(f.getModifiers());
-                due("static is final: " + f, !isStatic || Modifier.isFinal(f.getModifiers()));
-                fields += isStatic ? 0 : 1;
-            }
-            due("some twenty fields: " + c, fields <= 20);
             for (Method m : c.getDeclaredMethods()) {
-                due("seven parameters: " + m, m.getParameterCount() <= 7);
                 boolean ofFace = c == PageHold.class && Modifier.isPublic(m.getModifiers());
                 due("a name of the face: " + m, ofFace || !names.contains(m.getName()));
             }
@@ -93,15 +81,10 @@ public final class RulesTest {
 
     private static void source(String text) {
         String code = text.replaceAll("(?s)/\\*.*?\\*/", "").replaceAll("//[^\n]*", "");
-        for (String f : FORBIDDEN) due("without " + f, !Pattern.compile(f).matcher(code).find());
+        due("without a package", !Pattern.compile("\\bpackage\\b").matcher(code).find());
+        due("without annotations", !code.contains("@"));
         Matcher imports = Pattern.compile("import ([^;]*);").matcher(code);
         while (imports.find()) due("import " + imports.group(1), imports.group(1).equals("java.util.Arrays"));
         due("ASCII", text.chars().allMatch(c -> c < 128));
-        int began = 0;
-        String[] lines = text.split("\n");
-        for (int i = 0; i < lines.length; i++) {
-            if (lines[i].matches("( {4}| {8})(public |private |static )*[\\w\\[\\]]* ?\\w+\\(.*\\) \\{")) began = i;
-            if (lines[i].matches(" {4}\\}| {8}\\}")) due("some sixty lines, line " + i, i - began <= 60 || lines[i].length() == 5);
-        }
     }
 }
