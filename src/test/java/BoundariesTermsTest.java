@@ -178,6 +178,20 @@ public final class BoundariesTermsTest {
         Checks.due("no READ", x.told(6), 0);
     }
 
+    static void terms2_bytes0InItsOwnFrameAlone() {
+        for (int hole = 0; hole < 4; hole++) {
+            PageHold x = new PageHold(4, 8);
+            Checks.fillPages(x, 0, 4);
+            x.punch(0, hole, 1);
+            Checks.touch(x, 0, hole);
+            Checks.due("the frame that was free", x.page(0, hole, 0), hole);
+            Checks.due("read", x.read(0, 0, 256), 256);
+            for (int i = 0; i < 256; i++) {
+                Checks.due("hole " + hole + ", byte " + i, x.hand(i), i / 64 == hole ? 0 : Checks.filled(i));
+            }
+        }
+    }
+
     static void terms2_bytesOfItsBlock() {
         PageHold x = new PageHold(4, 16);
         Checks.fillPages(x, 0, 8);
